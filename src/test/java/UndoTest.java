@@ -1,0 +1,165 @@
+/** Promises 48 and 49: undo and the checksum. */
+public final class UndoTest {
+    private static final String TEXT = "project 1000;main 0 0 0;sub 0 0 0 1 0;item 0 10 10;item 1 5 10;";
+
+    public static void main(String[] args) {
+        eachChange();
+        eightSteps();
+        afterUndo();
+        failures();
+        loads();
+        promise49Checksum();
+        Check.end("UndoTest");
+    }
+
+    /** Every changing method, one after the other, and back again. */
+    private static void eachChange() {
+        ConstructionLedger x = Texts.ledger(TEXT);
+        Check.Call[] changes = {
+            () -> x.measure(0, 0, 100), () -> x.measure(1, 0, 100), () -> x.propose(1, 0, 2),
+            () -> x.approve(0), () -> x.certify(1), () -> x.certify(0), () -> x.nextStage(0),
+            () -> x.pay(1, 30), () -> x.deposit(7), () -> x.pass(2), () -> x.fileLien(1),
+            () -> x.withdrawLien(0), () -> x.settle(3), () -> Texts.load(x, TEXT),
+        };
+        for (int i = 0; i < changes.length; i++) {
+            Check.Call change = changes[i];
+            String before = state(x);
+            change.run();
+            Check.no("48 something changed", before.equals(state(x)));
+            String after = state(x);
+            x.undo();
+            Check.yes("48 all is back: " + before, before.equals(state(x)));
+            change.run();
+            Check.yes("48 done again: " + after, after.equals(state(x)));
+        }
+    }
+
+    private static void eightSteps() {
+        ConstructionLedger x = new ConstructionLedger();
+        Check.same("48 nothing", x.undo(), -1);
+        Texts.load(x, TEXT);
+        for (int i = 1; i <= 30; i++) {
+            x.pass(1);
+        }
+        for (int left = 7; left >= 0; left--) {
+            Check.same("48 left", x.undo(), left);
+            Check.same("48 the latest first", x.day(), 22 + left);
+        }
+        Check.same("48 no more", x.undo(), -1);
+        Check.same("48 nothing changes", x.day(), 22);
+    }
+
+    private static void afterUndo() {
+        ConstructionLedger x = Texts.ledger(TEXT);
+        x.pass(1);
+        x.pass(2);
+        Check.same("48 two left", x.undo(), 2);
+        x.pass(5);
+        Check.same("48 another way", x.day(), 6);
+        Check.same("48 of it", x.undo(), 2);
+        Check.same("48 day", x.day(), 1);
+        Check.same("48 before", x.undo(), 1);
+        Check.same("48 day at first", x.day(), 0);
+    }
+
+    private static void failures() {
+        ConstructionLedger x = Texts.ledger(TEXT);
+        Check.noArgument("43", () -> x.deposit(0));
+        Check.noState("41", () -> x.nextStage(0));
+        Texts.load(x, "project");
+        x.settleDays(firstCertificate(x), 5);
+        Check.same("48 failures and queries do not count", x.undo(), 2);
+        ConstructionLedger y = Texts.ledger(TEXT);
+        y.measure(0, 0, 0);
+        Check.same("48 a change that changes nothing counts", y.undo(), 1);
+        y.settle(1);
+        Check.same("48 so does a settlement without payments", y.undo(), 1);
+    }
+
+    private static int firstCertificate(ConstructionLedger x) {
+        x.measure(0, 0, 50);
+        return x.certify(0);
+    }
+
+    private static void loads() {
+        ConstructionLedger x = Texts.ledger(TEXT);
+        x.deposit(5);
+        String before = state(x);
+        Texts.load(x, "project 3;main 1 1 1;rate 5;");
+        x.append(1, 2, 3, 4, 5);
+        Check.same("48 back over a load", x.undo(), 2);
+        Check.yes("48 the old project", before.equals(state(x)));
+        Check.same("48 the buffer stays", x.append(1, 2, 3, 4, 5), 40);
+        x.undo();
+        Check.same("48 back before the first load", x.undo(), 0);
+        Check.same("6 no contracts", x.contractCount(), 0);
+        Check.same("21 owner", x.account(0), 0);
+        Check.noIndex("21 no firm", () -> x.account(1));
+        Check.noState("44 no project", () -> x.pass(1));
+        Check.same("49 of nothing", x.checksum(), 0);
+        Check.same("2 the buffer stays", x.append(1, 2, 3, 4, 5), 60);
+    }
+
+    private static void promise49Checksum() {
+        ConstructionLedger x = Texts.ledger(TEXT);
+        // day, owner; firm, stage, gross and certified of both contracts; variations.
+        Check.same("49 at first", x.checksum(), fold(0, 1000, 0, 0, 0, 0, 0, 0, 0, 0, 0));
+        x.measure(0, 0, 100);
+        x.measure(1, 0, 50);
+        x.nextStage(0);
+        x.propose(0, 0, 4);
+        x.certify(1);
+        x.certify(0);
+        x.pay(1, 60);
+        x.pass(2);
+        x.fileLien(1);
+        x.propose(0, 0, 5);
+        x.pay(0, 5);
+        Check.same("49 all parts", x.checksum(),
+                fold(2, 940, 55, 1, 100, 100, 5, 0, 25, 25, 20, 40, 20, 2));
+        ConstructionLedger y = Texts.ledger("project 9999999;main 0 0 0;" + "sub 0 0 0 0 0;".repeat(7));
+        long[] numbers = new long[35];
+        numbers[0] = 365;
+        numbers[1] = 9999999;
+        y.pass(365);
+        Check.same("49 wraps around", y.checksum(), fold(numbers));
+    }
+
+    private static long fold(long... numbers) {
+        long sum = 0;
+        for (long n : numbers) {
+            sum = 31 * sum + n;
+        }
+        return sum;
+    }
+
+    /** All that can be asked, as one text. */
+    static String state(ConstructionLedger x) {
+        StringBuilder all = new StringBuilder();
+        all.append(x.day()).append(' ').append(x.checksum()).append(' ').append(x.account(0));
+        for (int c = 0; c < x.contractCount(); c++) {
+            all.append("\nc ").append(x.parent(c)).append(' ').append(x.stage(c)).append(' ')
+                    .append(x.account(c + 1)).append(' ').append(x.firstSum(c)).append(' ')
+                    .append(x.presentSum(c)).append(' ').append(x.grossValue(c)).append(' ')
+                    .append(x.retention(c)).append(' ').append(x.certified(c)).append(' ')
+                    .append(x.unpaid(c)).append(' ').append(x.overdue(c)).append(' ').append(x.margin(c));
+            for (int i = 0; i < x.itemCount(c); i++) {
+                all.append(" i ").append(x.quantity(c, i)).append(' ').append(x.specialRate(c, i))
+                        .append(' ').append(x.itemValue(c, i));
+            }
+        }
+        for (int c = 0; c < x.certificateCount(); c++) {
+            all.append("\nz ").append(x.certificateContract(c)).append(' ').append(x.amount(c)).append(' ')
+                    .append(x.openAmount(c)).append(' ').append(x.dueDay(c)).append(' ')
+                    .append(x.isBlocked(c)).append(' ').append(x.settleDays(c, 30));
+        }
+        for (int v = 0; v < x.variationCount(); v++) {
+            all.append("\nv ").append(x.isApproved(v)).append(' ').append(x.variationWorth(v));
+        }
+        for (int k = 0; k < x.lienCount(); k++) {
+            all.append("\nl ").append(x.claim(k)).append(' ').append(x.priority(k)).append(' ')
+                    .append(x.share(k, 11)).append(' ').append(x.share(k, 77));
+        }
+        return all.toString();
+    }
+}
