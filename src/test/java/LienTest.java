@@ -7,6 +7,7 @@ public final class LienTest {
         promise34SecondLien();
         promise47WithdrawLien();
         promise35Priority();
+        promise35MainContract();
         promise36OneRank();
         promise36Ranks();
         promise36Remainders();
@@ -55,6 +56,11 @@ public final class LienTest {
         x.withdrawLien(0);
         Check.same("46 again after withdrawing", x.fileLien(2), 2);
         Check.same("33 withdrawn included", x.lienCount(), 3);
+        x.measure(0, 0, 1);
+        x.certify(0);
+        x.pay(2, 69);
+        x.pay(0, 29);
+        Check.noState("46 a claim of 1 is enough", () -> x.fileLien(1));
     }
 
     private static void promise46Full() {
@@ -146,6 +152,19 @@ public final class LienTest {
         }
         Check.noIndex("35 below", () -> x.priority(-1));
         Check.noIndex("35 above", () -> x.priority(6));
+    }
+
+    private static void promise35MainContract() {
+        ConstructionLedger x = ledger(new int[] {0, 1}, new int[] {30, 40});
+        x.measure(0, 0, 1);
+        x.certify(0);
+        x.pass(1);
+        x.fileLien(2);
+        x.fileLien(0);
+        x.fileLien(1);
+        Check.same("35 main has rank 0", x.priority(0), 1);
+        Check.same("35 so has the first sub", x.priority(1), 2);
+        Check.same("35 then rank 1", x.priority(2), 0);
     }
 
     private static void promise36OneRank() {

@@ -9,6 +9,7 @@ public final class PaymentTest {
         promise40Full();
         promises22To26Certificates();
         promise27Blocked();
+        promise27FirstCertificate();
         promise28DueBetween();
         promise29SettleDays();
         promise29Chain();
@@ -20,6 +21,8 @@ public final class PaymentTest {
         promise45Settle();
         promise45Order();
         promise45Quiet();
+        promise45NextDay();
+        promise45Blocked();
         lastDay();
         Check.end("PaymentTest");
     }
@@ -136,6 +139,13 @@ public final class PaymentTest {
         x.certify(1);
         Check.yes("27 also when it is paid itself", x.isBlocked(3));
         Check.no("27 earlier than that", x.isBlocked(2));
+    }
+
+    private static void promise27FirstCertificate() {
+        ConstructionLedger x = chain();
+        x.certify(1);
+        x.certify(2);
+        Check.yes("27 by the very first one", x.isBlocked(1));
     }
 
     private static void promise28DueBetween() {
@@ -358,6 +368,39 @@ public final class PaymentTest {
         x.undo();
         Check.same("45 in one call", x.settle(30), 1500);
         Check.same("5 the days are up", x.day(), 40);
+    }
+
+    private static void promise45NextDay() {
+        ConstructionLedger x = Texts.ledger("project 100;main 0 0 1;sub 0 0 0 0 0;item 0 1 100;item 1 1 60;");
+        x.measure(0, 0, 100);
+        x.measure(1, 0, 100);
+        x.certify(1);
+        x.certify(0);
+        Check.same("29 main on the very next day", x.settleDays(1, 200), 2);
+        Check.same("45 main on the very next day", x.settle(2), 100);
+        Check.same("45 then the sub", x.settle(1), 60);
+    }
+
+    private static void promise45Blocked() {
+        // The payer of the linked sub has money, but is itself not wholly paid.
+        ConstructionLedger x = chain();
+        x.measure(1, 0, 50);
+        x.certify(0);
+        x.certify(1);
+        x.pay(0, 1000);
+        x.pay(1, 250);
+        x.measure(1, 0, 100);
+        x.certify(1);
+        x.certify(2);
+        x.pay(2, 249);
+        x.pass(3);
+        Check.yes("27 one unit is open", x.isBlocked(3));
+        Check.same("45 blocked though there is money", x.settle(1), 0);
+        Check.same("45 money", x.account(2), 499);
+        x.pass(1);
+        Check.same("29 on the same day, by due day", x.settleDays(3, 9), 2);
+        Check.same("45 the open unit", x.settle(1), 1);
+        Check.same("45 free on the next day", x.settle(1), 200);
     }
 
     private static void lastDay() {

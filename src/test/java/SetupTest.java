@@ -61,6 +61,17 @@ public final class SetupTest {
         Check.same("3 unchanged", x.load(21), 1);
         Texts.append(x, Texts.bytesOf(HEAD + "sub 0 1 1 1 1;"));
         Check.same("3 only the first bytes", x.load(21), 1);
+        cutsAt("project 12;main 1 2 3;", 9);
+        cutsAt("project 7;mainly", 14);
+        cutsAt("project 7;    main", 12);
+    }
+
+    /** The text would go on with the same run of digits, letters or spaces. */
+    private static void cutsAt(String text, int length) {
+        ConstructionLedger x = new ConstructionLedger();
+        Texts.append(x, Texts.bytesOf(text));
+        Check.same("3 cut " + text, x.load(length), ConstructionLedger.SYNTAX_ERROR);
+        Check.same("4 end of the cut " + text, x.errorOffset(), length);
     }
 
     private static void promise03Empties() {
@@ -118,6 +129,13 @@ public final class SetupTest {
     private static void promise03SyntaxErrors() {
         refuses("", -2, 0);
         refuses("main 1 1 1;", -2, 0);
+        refuses("7;main 1 2 3;", -2, 0);
+        refuses("project 7;1 2 3;", -2, 10);
+        refuses("project 7;mainz 1 2 3;", -2, 10);
+        refuses("project 7;amain 1 2 3;", -2, 10);
+        refuses("project 7;nain 1 2 3;", -2, 10);
+        refuses(HEAD + "dub 0 1 1 1 1;", -2, 21);
+        refuses(HEAD + "iten 0 1 1;", -2, 21);
         refuses("Project 7;main 1 2 3;", -2, 0);
         refuses("projects 7;main 1 2 3;", -2, 0);
         refuses("project a;main 1 2 3;", -2, 8);

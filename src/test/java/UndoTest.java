@@ -6,6 +6,7 @@ public final class UndoTest {
         eachChange();
         eightSteps();
         afterUndo();
+        anotherWay();
         failures();
         loads();
         promise49Checksum();
@@ -60,6 +61,35 @@ public final class UndoTest {
         Check.same("48 day", x.day(), 1);
         Check.same("48 before", x.undo(), 1);
         Check.same("48 day at first", x.day(), 0);
+    }
+
+    /** What has been undone leaves nothing behind, however the ledger keeps its states. */
+    private static void anotherWay() {
+        ConstructionLedger x = Texts.ledger(TEXT);
+        x.measure(0, 0, 100);
+        x.certify(0);
+        x.pass(1);
+        x.propose(0, 0, 2);
+        x.approve(0);
+        x.fileLien(0);
+        x.withdrawLien(0);
+        for (int i = 0; i < 4; i++) {
+            x.undo();
+        }
+        for (int shift = 0; shift < 4; shift++) {
+            x.deposit(1);
+            x.propose(0, 0, 2);
+            Check.no("48 not approved", x.isApproved(0));
+            Check.same("48 quantity", x.quantity(0, 0), 10);
+            x.fileLien(0);
+            Check.same("48 not withdrawn", x.claim(0), 100);
+            x.undo();
+            x.undo();
+        }
+        x.undo();
+        x.undo();
+        x.undo();
+        Check.same("48 back to the certificate", x.certified(0), 100);
     }
 
     private static void failures() {

@@ -229,6 +229,7 @@ public final class WorkTest {
         Check.same("39 down to 0", x.approve(1), 0);
         Check.noState("39 twice", () -> x.approve(1));
         Check.same("39 up", x.approve(2), 11);
+        Check.noState("39 up twice", () -> x.approve(2));
         Check.same("39 possible now", x.approve(0), 0);
         Check.noIndex("39 below", () -> x.approve(-1));
         Check.noIndex("39 above", () -> x.approve(3));
