@@ -436,7 +436,9 @@ public final class ConstructionLedger {
             System.arraycopy(other.limitPercent, 0, limitPercent, 0, count);
             System.arraycopy(other.paymentDays, 0, paymentDays, 0, count);
             System.arraycopy(other.rank, 0, rank, 0, count);
-            System.arraycopy(other.linked, 0, linked, 0, count);
+            for (int i = 0; i < count; i++) {
+                linked[i] = other.linked[i];
+            }
             System.arraycopy(other.stage, 0, stage, 0, count);
         }
     }
@@ -750,7 +752,9 @@ public final class ConstructionLedger {
             count = other.count;
             System.arraycopy(other.slot, 0, slot, 0, count);
             System.arraycopy(other.change, 0, change, 0, count);
-            System.arraycopy(other.approved, 0, approved, 0, count);
+            for (int i = 0; i < count; i++) {
+                approved[i] = other.approved[i];
+            }
         }
     }
 
@@ -778,7 +782,9 @@ public final class ConstructionLedger {
             System.arraycopy(other.contract, 0, contract, 0, count);
             System.arraycopy(other.amount, 0, amount, 0, count);
             System.arraycopy(other.filed, 0, filed, 0, count);
-            System.arraycopy(other.withdrawn, 0, withdrawn, 0, count);
+            for (int i = 0; i < count; i++) {
+                withdrawn[i] = other.withdrawn[i];
+            }
         }
     }
 

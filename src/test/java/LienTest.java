@@ -69,6 +69,9 @@ public final class LienTest {
             x.withdrawLien(i - 1);
             Check.same("46 index", x.fileLien(1), i);
         }
+        Check.same("36 full", x.share(11, 7), 7);
+        Check.same("36 full, withdrawn", x.share(10, 7), 0);
+        Check.same("35 full", x.priority(11), 11);
         x.withdrawLien(11);
         Check.noState("46 full", () -> x.fileLien(1));
         Check.noIndex("46 index first", () -> x.fileLien(2));
