@@ -6,15 +6,21 @@ final class Check {
 
     private static int done = 0;
     private static int wrong = 0;
+    private static String place = "";
 
     private Check() {
+    }
+
+    /** Where the checks belong that follow, for their messages. */
+    static void in(String where) {
+        place = where.isEmpty() ? "" : where + " -- ";
     }
 
     static void same(String what, long got, long want) {
         done++;
         if (got != want) {
             wrong++;
-            System.out.println(what + ": got " + got + ", want " + want);
+            System.out.println(place + what + ": got " + got + ", want " + want);
         }
     }
 
@@ -37,7 +43,7 @@ final class Check {
         }
         if (got != want) {
             wrong++;
-            System.out.println(what + ": got " + got + ", want " + want);
+            System.out.println(place + what + ": got " + got + ", want " + want);
         }
     }
 

@@ -24,14 +24,14 @@ public final class UndoTest {
         };
         for (int i = 0; i < changes.length; i++) {
             Check.Call change = changes[i];
-            String before = state(x);
+            String before = Trace.state(x);
             change.run();
-            Check.no("48 something changed", before.equals(state(x)));
-            String after = state(x);
+            Check.no("48 something changed", before.equals(Trace.state(x)));
+            String after = Trace.state(x);
             x.undo();
-            Check.yes("48 all is back: " + before, before.equals(state(x)));
+            Check.yes("48 all is back: " + before, before.equals(Trace.state(x)));
             change.run();
-            Check.yes("48 done again: " + after, after.equals(state(x)));
+            Check.yes("48 done again: " + after, after.equals(Trace.state(x)));
         }
     }
 
@@ -114,11 +114,11 @@ public final class UndoTest {
     private static void loads() {
         ConstructionLedger x = Texts.ledger(TEXT);
         x.deposit(5);
-        String before = state(x);
+        String before = Trace.state(x);
         Texts.load(x, "project 3;main 1 1 1;rate 5;");
         x.append(1, 2, 3, 4, 5);
         Check.same("48 back over a load", x.undo(), 2);
-        Check.yes("48 the old project", before.equals(state(x)));
+        Check.yes("48 the old project", before.equals(Trace.state(x)));
         Check.same("48 the buffer stays", x.append(1, 2, 3, 4, 5), 40);
         x.undo();
         Check.same("48 back before the first load", x.undo(), 0);
@@ -161,35 +161,5 @@ public final class UndoTest {
             sum = 31 * sum + n;
         }
         return sum;
-    }
-
-    /** All that can be asked, as one text. */
-    static String state(ConstructionLedger x) {
-        StringBuilder all = new StringBuilder();
-        all.append(x.day()).append(' ').append(x.checksum()).append(' ').append(x.account(0));
-        for (int c = 0; c < x.contractCount(); c++) {
-            all.append("\nc ").append(x.parent(c)).append(' ').append(x.stage(c)).append(' ')
-                    .append(x.account(c + 1)).append(' ').append(x.firstSum(c)).append(' ')
-                    .append(x.presentSum(c)).append(' ').append(x.grossValue(c)).append(' ')
-                    .append(x.retention(c)).append(' ').append(x.certified(c)).append(' ')
-                    .append(x.unpaid(c)).append(' ').append(x.overdue(c)).append(' ').append(x.margin(c));
-            for (int i = 0; i < x.itemCount(c); i++) {
-                all.append(" i ").append(x.quantity(c, i)).append(' ').append(x.specialRate(c, i))
-                        .append(' ').append(x.itemValue(c, i));
-            }
-        }
-        for (int c = 0; c < x.certificateCount(); c++) {
-            all.append("\nz ").append(x.certificateContract(c)).append(' ').append(x.amount(c)).append(' ')
-                    .append(x.openAmount(c)).append(' ').append(x.dueDay(c)).append(' ')
-                    .append(x.isBlocked(c)).append(' ').append(x.settleDays(c, 30));
-        }
-        for (int v = 0; v < x.variationCount(); v++) {
-            all.append("\nv ").append(x.isApproved(v)).append(' ').append(x.variationWorth(v));
-        }
-        for (int k = 0; k < x.lienCount(); k++) {
-            all.append("\nl ").append(x.claim(k)).append(' ').append(x.priority(k)).append(' ')
-                    .append(x.share(k, 11)).append(' ').append(x.share(k, 77));
-        }
-        return all.toString();
     }
 }
