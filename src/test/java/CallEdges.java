@@ -60,6 +60,17 @@ final class CallEdges {
             x.propose(0, 0, 1);
             Check.no("approved", x.isApproved(0));
             Check.same("quantity", x.quantity(0, 0), 10);
+            x.approve(0);
+            x.undo();
+            x.undo();
+            for (int more = 0; more < 9; more++) {
+                x.pass(1);
+                x.propose(0, 0, 1);
+                Check.no("approved, of those before an undone one", x.isApproved(more));
+                x.approve(more);
+                x.undo();
+                Check.no("approved, and undone", x.isApproved(more));
+            }
         });
         Says.that(38, "- `change`: -999 to 999, not 0", () -> {
             ConstructionLedger x = Texts.ledger("project 0;main 0 0 0;item 0 999 1;");
@@ -381,6 +392,12 @@ final class CallEdges {
             x.certify(0);
             x.fileLien(0);
             Check.same("1 is overdue of 10", x.claim(0), 1);
+            x.withdrawLien(0);
+            x.undo();
+            x.undo();
+            x.pass(2);
+            x.fileLien(0);
+            Check.same("not withdrawn, as an undone one was", x.claim(0), 10);
         });
         Says.that(46, "Returns the index of the lien.", () -> {
             ConstructionLedger x = overdue();

@@ -52,6 +52,11 @@ final class CertificateEdges {
             Check.same("0 percent of the first sum", Given.done("project 0;main 20 0 0;item 0 10 20;").retention(0), 0);
             Check.same("20 percent", Given.done("project 0;main 20 20 0;item 0 10 20;").retention(0), 40);
             Check.same("both rounded", Given.done("project 0;main 20 20 0;item 0 1 9;").retention(0), 1);
+            int[] firsts = {24, 25, 29, 30, 495};
+            int[] limits = {4, 5, 5, 6, 99};
+            for (int i = 0; i < firsts.length; i++) {
+                Check.same("a fifth of a first sum of " + firsts[i], limited(firsts[i]).retention(0), limits[i]);
+            }
         });
         Says.that(SECTION, "The retention is the basic retention in stage 0, half of it (rounded down) in stage 1,"
                 + " and 0 in stage 2.", () -> {
@@ -65,6 +70,14 @@ final class CertificateEdges {
                 Check.same("stage 2, basic " + basic, x.retention(0), 0);
             }
         });
+    }
+
+    /** The gross value is so far above the first sum that the limit counts. */
+    private static ConstructionLedger limited(int firstSum) {
+        ConstructionLedger x = Given.done("project 0;main 20 20 0;item 0 " + firstSum + " 1;");
+        x.propose(0, 0, 999);
+        x.approve(0);
+        return x;
     }
 
     private static void certificates() {
@@ -181,6 +194,7 @@ final class CertificateEdges {
             ConstructionLedger y = dueOnDay3();
             y.pass(2);
             Check.same("due yesterday", y.settle(1), 9);
+            Check.same("due on the second of two days", dueOnDay3().settle(2), 9);
             order();
         });
         Says.that(DAY, "(2) The day increases by 1.", () -> {
@@ -216,6 +230,15 @@ final class CertificateEdges {
         Check.same("due later, lower index", x.openAmount(1), 5);
         Check.same("due first, lower index", x.openAmount(2), 0);
         Check.same("due first, higher index", x.openAmount(3), 5);
+        ConstructionLedger y = Given.done("project 5;main 0 0 0;sub 0 0 0 2 0;sub 0 0 0 1 0;"
+                + "item 0 1 5;item 1 1 5;item 2 1 5;");
+        y.certify(1);
+        y.certify(2);
+        Given.payMain(y, 5);
+        y.pass(3);
+        y.settle(1);
+        Check.same("due later, index 0", y.openAmount(0), 5);
+        Check.same("due first, index 1", y.openAmount(1), 0);
     }
 
     private static void payments() {

@@ -31,6 +31,17 @@ final class LienEdges {
             Check.same("1 is open", x.overdue(0), 1);
             x.pay(0, 1);
             Check.same("0 is open", x.overdue(0), 0);
+            ConstructionLedger y = Texts.ledger("project 9;main 0 0 2;item 0 100 1;");
+            for (int day = 0; day < 3; day++) {
+                y.measure(0, 0, day + 1);
+                y.certify(0);
+                y.pass(1);
+            }
+            Check.same("one of three is overdue", y.overdue(0), 1);
+            y.pass(1);
+            Check.same("two of three", y.overdue(0), 2);
+            y.pass(1);
+            Check.same("all three", y.overdue(0), 3);
         });
     }
 

@@ -157,8 +157,10 @@ final class QueryEdges {
             ConstructionLedger z = Given.busy();
             Check.same("18 of 20 bytes", z.load(18), ConstructionLedger.SYNTAX_ERROR);
             Check.same("its end", z.errorOffset(), 18);
+            cutInARun();
         });
         Says.that(3, "The day is 0 then, and there are no variations, certificates and liens.", () -> {
+            nothingOfTheOldOne();
             ConstructionLedger x = Given.busy();
             x.load(20);
             Check.same("day", x.day(), 0);
@@ -203,6 +205,41 @@ final class QueryEdges {
             TextEdges.refuses(Given.LEAST + "sub0 0 0 0 0;".repeat(8), ConstructionLedger.TOO_MANY, 19 + 7 * 13);
             TextEdges.refuses(Given.LEAST + "rate 10000*((((((", ConstructionLedger.OUT_OF_RANGE, 24);
         });
+    }
+
+    /** The bytes behind the given length belong to no number and no word, though they would fit. */
+    private static void cutInARun() {
+        ConstructionLedger x = new ConstructionLedger();
+        Texts.append(x, Texts.bytesOf("project 99999999;mai"));
+        Check.same("seven digits of eight", x.load(15), ConstructionLedger.SYNTAX_ERROR);
+        Check.same("the text's end behind them", x.errorOffset(), 15);
+        Texts.append(x, Texts.bytesOf("project 99999999;mai"));
+        Check.same("all eight digits", x.load(16), ConstructionLedger.OUT_OF_RANGE);
+        Texts.append(x, Texts.bytesOf("project 7;main 1 2 3;subs"));
+        Check.same("three letters of four", x.load(24), ConstructionLedger.SYNTAX_ERROR);
+        Check.same("the text's end behind the word", x.errorOffset(), 24);
+        Texts.append(x, Texts.bytesOf("project 7;main 1 2 3;subs"));
+        Check.same("all four letters", x.load(25), ConstructionLedger.SYNTAX_ERROR);
+        Check.same("another word", x.errorOffset(), 21);
+    }
+
+    /** A contract with fewer items than before, and with the first certificate of its own again. */
+    private static void nothingOfTheOldOne() {
+        ConstructionLedger x = Texts.ledger("project 9;main 0 0 0;sub 0 0 0 0 0 linked;"
+                + "item 0 1 9;item 0 1 8;item 1 1 7;");
+        x.measure(0, 0, 100);
+        x.certify(0);
+        Texts.load(x, "project 9;main 0 0 0;sub 0 0 0 0 0 linked;item 0 1 9;item 1 1 7;");
+        x.measure(0, 0, 100);
+        x.measure(1, 0, 100);
+        Check.same("present sum", x.presentSum(0), 9);
+        Check.same("gross value", x.grossValue(0), 9);
+        Check.same("first sum", x.firstSum(0), 9);
+        Check.same("due", x.dueBetween(LOWEST, HIGHEST), 0);
+        x.certify(1);
+        Check.no("blocked by the old certificate", x.isBlocked(0));
+        Check.same("complete", x.nextStage(0), 1);
+        Check.same("amount", x.amount(x.certify(0)), 9);
     }
 
     private static void loadLength() {
@@ -345,6 +382,15 @@ final class QueryEdges {
             Check.same("none", x.unpaid(0), 0);
             x.certify(0);
             Check.same("one", x.unpaid(0), 9);
+            x.propose(0, 0, 1);
+            x.approve(0);
+            x.certify(0);
+            Check.same("two", x.unpaid(0), 18);
+            x.pay(0, 9);
+            Check.same("one of two is paid", x.unpaid(0), 9);
+            x.undo();
+            x.undo();
+            Check.same("one again", x.unpaid(0), 9);
             x.pay(0, 9);
             Check.same("paid", x.unpaid(0), 0);
         });
@@ -436,6 +482,10 @@ final class QueryEdges {
             Check.same("1 is open", x.dueBetween(5, 5), 1);
             x.pay(0, 1);
             Check.same("0 is open", x.dueBetween(5, 5), 0);
+            for (int change = 0; change < 3; change++) {
+                x.undo();
+            }
+            Check.same("the last one is not issued", x.dueBetween(LOWEST, HIGHEST), 9);
         });
     }
 

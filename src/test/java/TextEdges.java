@@ -151,6 +151,11 @@ final class TextEdges {
             refuses("project`7;main 1 2 3;", SYNTAX, 7);
             refuses("project{7;main 1 2 3;", SYNTAX, 7);
             refuses("project 7.0;main 1 2 3;", SYNTAX, 9);
+            refuses("aroject 7;main 1 2 3;", SYNTAX, 0);
+            refuses("projecs 7;main 1 2 3;", SYNTAX, 0);
+            refuses(HEAD + "dub 0 1 1 1 1;", SYNTAX, 21);
+            refuses(HEAD + "sub 0 1 1 1 1 zinked;", SYNTAX, 35);
+            refuses(HEAD + "sub 0 1 1 1 1 linkea;", SYNTAX, 35);
         });
         Says.that(SECTION, "Each run is as long as possible.", () -> {
             accepts("project7;main1 2 3;sub0 1 1 1 1linked;item1 1 1;threshold1;rate1;", 2);
