@@ -443,7 +443,10 @@ public final class ConstructionLedger {
         }
     }
 
-    /** The threshold, and the rate expression with each operation behind its two operands. */
+    /**
+     * The threshold, and the rate expression with each operation behind its two operands. Only the
+     * reader changes it, and only while it reads, so that all later states share it.
+     */
     private static final class Pricing {
         static final int USUAL_THRESHOLD = 25;
         static final int MAX_NUMBER = 9999;
@@ -461,13 +464,12 @@ public final class ConstructionLedger {
 
         int threshold = USUAL_THRESHOLD;
         int length = 0;
-        // Each part of the expression takes a byte of the text, so there are not more of them.
-        final int[] code = new int[BUFFER_BYTES];
+        final int[] code;
         final int[] stack = new int[STACK_PLACES];
 
-        void clear() {
-            threshold = USUAL_THRESHOLD;
-            length = 0;
+        // Each part of the expression takes a byte of the text, so there are not more of them.
+        Pricing(int textBytes) {
+            code = new int[Math.max(0, Math.min(textBytes, BUFFER_BYTES))];
         }
 
         void add(int part) {
@@ -475,12 +477,6 @@ public final class ConstructionLedger {
                 code[length] = part;
                 length++;
             }
-        }
-
-        void copyFrom(Pricing other) {
-            threshold = other.threshold;
-            length = other.length;
-            System.arraycopy(other.code, 0, code, 0, length);
         }
 
         long fullValue(int price, int first, int quantity) {
@@ -793,20 +789,20 @@ public final class ConstructionLedger {
         int day = 0;
         final long[] accounts = new long[MAX_CONTRACTS + 1];
         final Contracts contracts = new Contracts();
-        final Pricing pricing = new Pricing();
+        Pricing pricing = new Pricing(0);
         final Items items = new Items();
         final Variations variations = new Variations();
         final Certificates certificates = new Certificates();
         final Liens liens = new Liens();
         final int[] order = new int[MAX_CERTIFICATES];
 
-        void clear() {
+        void clear(int textBytes) {
             day = 0;
             for (int i = 0; i < accounts.length; i++) {
                 accounts[i] = 0;
             }
             contracts.count = 0;
-            pricing.clear();
+            pricing = new Pricing(textBytes);
             items.clear();
             variations.count = 0;
             certificates.count = 0;
@@ -817,7 +813,7 @@ public final class ConstructionLedger {
             day = other.day;
             System.arraycopy(other.accounts, 0, accounts, 0, accounts.length);
             contracts.copyFrom(other.contracts);
-            pricing.copyFrom(other.pricing);
+            pricing = other.pricing;
             items.copyFrom(other.items);
             variations.copyFrom(other.variations);
             certificates.copyFrom(other.certificates);
@@ -1099,7 +1095,7 @@ public final class ConstructionLedger {
             errorAt = -1;
             hasThreshold = false;
             hasRate = false;
-            draft.clear();
+            draft.clear(length);
             advance();
             readHead();
             for (int i = 0; i < length && error == NO_ERROR && kind != END; i++) {

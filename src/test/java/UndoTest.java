@@ -9,6 +9,7 @@ public final class UndoTest {
         anotherWay();
         failures();
         loads();
+        rates();
         promise49Checksum();
         Check.end("UndoTest");
     }
@@ -128,6 +129,29 @@ public final class UndoTest {
         Check.noState("44 no project", () -> x.pass(1));
         Check.same("49 of nothing", x.checksum(), 0);
         Check.same("2 the buffer stays", x.append(1, 2, 3, 4, 5), 60);
+    }
+
+    /** Each project keeps its own rate and threshold, whatever is read behind it. */
+    private static void rates() {
+        ConstructionLedger x = new ConstructionLedger();
+        for (int k = 1; k <= 8; k++) {
+            Texts.load(x, "project 0;main 0 0 0;item 0 100 1;threshold " + k + ";rate price*" + k + "+excess;");
+            x.propose(0, 0, 10);
+            x.approve(0);
+            x.undo();
+            x.undo();
+        }
+        Check.same("3 an error behind the rate", Texts.load(x, "project 0;main 0 0 0;threshold 99;rate 99 9;"), -2);
+        for (int k = 8; k >= 2; k--) {
+            Check.same("48 the rate of text " + k, x.specialRate(0, 0), k);
+            x.propose(0, 0, 10);
+            x.approve(0);
+            Check.same("48 the threshold of text " + k, x.specialRate(0, 0), 10);
+            Check.same("48 the sum of text " + k, x.presentSum(0), 100 + k + (10 - k) * 10);
+            x.undo();
+            x.undo();
+            Check.same("48 left", x.undo(), k - 3);
+        }
     }
 
     private static void promise49Checksum() {
